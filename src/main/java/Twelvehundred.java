@@ -591,13 +591,13 @@ public final class Twelvehundred {
             return true;
         }
 
-        // Only hours that are someone's limit need a look: between them
-        // nobody more is due, while the buses go on.
+        // Only hours that are someone's limit need a look: between them nobody more is due, while the buses
+        // go on. Limit 0 needs no word of its own: no bus has come by then, and one is due at least.
         private boolean canReachAsLateAs(Household last, int set) {
-            int limit = river.limitOf(last.home);
-            if (last.state != AT_HOME || limit == 0) {
+            if (last.state != AT_HOME) {
                 return false;
             }
+            int limit = river.limitOf(last.home);
             int due = 0;
             for (int i = 0; i < households.size(); i++) {
                 due += oneIf(hasMember(set, i) && river.limitOf(households.get(i).home) <= limit);

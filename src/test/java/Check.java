@@ -7,12 +7,14 @@ final class Check {
 
     private int wrong = 0;
 
-    /** The answer as text; of an exception the plain name of its very class. */
+    /** The answer as text; of an exception the plain name of its very class, and whether the library threw it. */
     static String answerOf(Call call) {
         try {
             return String.valueOf(call.run());
         } catch (RuntimeException e) {
-            return "throws " + e.getClass().getSimpleName();
+            StackTraceElement[] trace = e.getStackTrace();
+            boolean isOurs = trace.length > 0 && !trace[0].getClassName().contains(".");
+            return "throws " + e.getClass().getSimpleName() + (isOurs ? "" : " from the library");
         }
     }
 
@@ -52,8 +54,10 @@ final class Check {
         rows(view, x.county(0), 5, x::ofStreet);
         rows(view, x.county(1), 4, x::ofHall);
         rows(view, x.county(2), 6, x::ofHousehold);
-        for (int lot = 0; answerOf(toLot(x, lot)).charAt(0) != 't'; lot++) {
-            view.append("lot ").append(x.ofLot(lot, 0)).append(' ').append(x.ofLot(lot, 1)).append(' ');
+        for (int lot = 0; lot < 10; lot++) {
+            int asked = lot;
+            view.append(answerOf(() -> x.ofLot(asked, 0))).append(' ');
+            view.append(answerOf(() -> x.ofLot(asked, 1))).append(' ');
         }
         for (int set = 0; set < 1 << x.county(2); set++) {
             view.append(x.can(set) ? '1' : '0');
@@ -75,10 +79,6 @@ final class Check {
                 view.append(asked.of(i, what)).append(' ');
             }
         }
-    }
-
-    private static Call toLot(Twelvehundred x, int lot) {
-        return () -> x.ofLot(lot, 0);
     }
 
     void end(String name) {

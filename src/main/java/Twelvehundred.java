@@ -646,11 +646,11 @@ public final class Twelvehundred {
         }
 
         Hall hallOf(Household one) {
-            return one.number < taken.length ? taken[one.number] : null;
+            return one.number >= 0 && one.number < taken.length ? taken[one.number] : null;
         }
 
         void put(Household one, Hall hall) {
-            if (one.number < taken.length) {
+            if (one.number >= 0 && one.number < taken.length) {
                 taken[one.number] = hall;
             }
         }
@@ -832,12 +832,12 @@ public final class Twelvehundred {
         }
 
         private boolean hasAsked(Household one, Hall hall) {
-            return one.number < askedBy.length && hasMember(askedBy[one.number], hall.number);
+            return one.number >= 0 && one.number < askedBy.length && hasMember(askedBy[one.number], hall.number);
         }
 
         private void ask(Household one, Hall hall) {
             askedCount++;
-            if (one.number < askedBy.length) {
+            if (one.number >= 0 && one.number < askedBy.length) {
                 askedBy[one.number] |= 1 << hall.number;
             }
             if (placing.hasRoom(hall)) {
@@ -947,10 +947,12 @@ public final class Twelvehundred {
             if (name < 1 || name > LARGEST_NAME) {
                 return false;
             }
-            for (int rest = name; rest > 0; rest /= 10) {
+            int rest = name;
+            for (int i = 0; i < MOST_DIGITS && rest > 0; i++) {
                 if (rest % 10 == 0) {
                     return false;
                 }
+                rest /= 10;
             }
             return true;
         }

@@ -1,3 +1,7 @@
+import java.math.BigInteger;
+import java.util.ArrayList;
+import java.util.List;
+
 /** Promises 15 to 17, 19 to 23, 26 and 27: what is asked of the county, and what would be. */
 public final class AskedTest {
     private static final int FAR = Integer.MAX_VALUE;
@@ -17,12 +21,16 @@ public final class AskedTest {
         test.promise19Asking();
         test.promise20Signs();
         test.promise21Can();
+        test.promise21CanOfEachSet();
         test.promise21CanHourByHour();
         test.promise22Chosen();
         test.promise23IsStable();
         test.promise23IsStableOfNobody();
         test.promise26IsSound();
+        test.promise26IsSoundOfMeals();
+        test.promise26IsSoundOfPersons();
         test.promise27Digest();
+        test.promise27DigestOfWhatWouldBe();
         test.check.end("AskedTest");
     }
 
@@ -279,6 +287,7 @@ public final class AskedTest {
         check.due("20: more people drive out", "hx021", () -> x.signs());
         x.fetch(0);
         check.due("20: the last has none", "-x021", () -> x.signs());
+        check.due("20: six of all kinds", "02hhxh", () -> Sheltered.full().signs());
     }
 
     private void promise21Can() {
@@ -311,6 +320,20 @@ public final class AskedTest {
         Twelvehundred full = Sheltered.atHome(6);
         check.due("21: all six", true, () -> full.can(63));
         check.argument("21: seven", full, () -> full.can(64));
+    }
+
+    private void promise21CanOfEachSet() {
+        for (int households = 0; households <= 6; households++) {
+            Twelvehundred x = Sheltered.atHome(households);
+            int sets = 1 << households;
+            for (int set = 0; set < sets; set++) {
+                int told = set;
+                check.due("21: set " + set + " of " + households, true, () -> x.can(told));
+            }
+            check.argument("21: one household more than " + households, x, () -> x.can(sets));
+            check.argument("21: all and one more than " + households, x, () -> x.can(2 * sets - 1));
+            check.argument("21: -1 of " + households, x, () -> x.can(-1));
+        }
     }
 
     private void promise21CanHourByHour() {
@@ -367,12 +390,12 @@ public final class AskedTest {
     }
 
     private void promise23IsStable() {
-        Twelvehundred x = contested();
         int stable = 123;
         for (int placing = 0; placing < 6000; placing++) {
             int told = placing;
-            check.due("23: " + told, told == stable, () -> x.isStable(told));
+            check.due("23: " + told, told == stable, () -> contested().isStable(told));
         }
+        Twelvehundred x = contested();
         for (int wrong : new int[] {-1, -123, 10123, 1230, FAR, FAR_BELOW}) {
             check.due("23: " + wrong, false, () -> x.isStable(wrong));
         }
@@ -431,52 +454,107 @@ public final class AskedTest {
         check.due("26: the water is there", true, () -> y.isSound());
     }
 
+    private void promise26IsSoundOfMeals() {
+        Twelvehundred x = new Twelvehundred();
+        for (int hours = 0; hours < 10; hours++) {
+            x.lot(9, hours);
+            check.due("26: lots of all hours", true, () -> x.isSound());
+        }
+        for (int hour = 0; hour < 10; hour++) {
+            x.give(4);
+            check.due("26: some given", true, () -> x.isSound());
+            x.pass(1);
+            check.due("26: some spoilt", true, () -> x.isSound());
+        }
+        check.due("26: none left", 0, () -> x.county(12));
+        check.due("26: all counted", 90, () -> x.county(13) + x.county(14));
+        x.give(99);
+        check.due("26: missing ones are none of it", true, () -> x.isSound());
+    }
+
+    private void promise26IsSoundOfPersons() {
+        Twelvehundred x = new Twelvehundred();
+        int[] apart = {11111, 22222, 33333, 44444, 55555, 66666, 77777, 88888, 99999, 12, 34, 56};
+        for (int name : apart) {
+            x.list(name);
+            check.due("26: as many persons as listed ones", true, () -> x.isSound());
+        }
+        check.due("26: twelve of twelve", 12, () -> x.county(17));
+        for (int listed = 0; listed < 12; listed++) {
+            x.strike(listed, true);
+            check.due("26: fewer", true, () -> x.isSound());
+        }
+        check.due("26: none of twelve", 0, () -> x.county(17));
+        check.due("26: a full county", true, () -> Sheltered.full().isSound());
+    }
+
     private void promise27Digest() {
         Twelvehundred x = new Twelvehundred();
-        check.due("27: new", newDigest(), () -> x.digest());
+        check.due("27: new", digestOf(x), () -> x.digest());
         Twelvehundred y = contested();
+        digestIsAsDue(y, "contested");
         y.lot(30, 3);
         y.lot(3, 9);
-        y.list(4);
-        y.household(0, 5, true);
+        digestIsAsDue(y, "lots");
         check.due("27: what would() adds to it", 20, () -> y.would(20, 3));
-        check.due("27: by the public face", digestOf(y, 2), () -> y.digest());
-        check.due("27: twice the same", digestOf(y, 2), () -> y.digest());
-        long before = y.digest();
-        y.knock();
-        check.due("27: moves", false, () -> before == y.digest());
-        check.due("27: moves as due", digestOf(y, 2), () -> y.digest());
+        digestIsAsDue(y, "twice the same");
+        Twelvehundred z = contested();
+        z.list(4);
+        z.household(0, 5, true);
+        digestIsAsDue(z, "one at home");
+        long before = z.digest();
+        z.knock();
+        check.due("27: moves", false, () -> before == z.digest());
+        digestIsAsDue(z, "moves as due");
+        digestIsAsDue(Sheltered.full(), "full");
+        digestIsAsDue(Sheltered.inHour(500), "in the last hour");
     }
 
-    private static long newDigest() {
-        long d = 8609;
-        int[] values = {0, 0, 0, 0, 0, 0, 0, 10, 0, 1, 0, 0, 0, 0, 0, 0, 0, 0, 0, 0, 0, 0, 1};
-        for (int v : values) {
-            d = d * 31 + v;
+    /** It asks what would be there of 20 meals in 3 hours: not of more, and not in an hour ahead or behind. */
+    private void promise27DigestOfWhatWouldBe() {
+        int[][] lots = {{19, 3}, {20, 3}, {21, 3}, {9, 2}, {9, 4}};
+        for (int[] lot : lots) {
+            Twelvehundred x = new Twelvehundred();
+            x.lot(lot[0], lot[1]);
+            digestIsAsDue(x, lot[0] + " meals for " + lot[1] + " hours");
         }
-        return d;
     }
 
-    private static long digestOf(Twelvehundred x, int lots) {
-        long d = 8609;
+    private void digestIsAsDue(Twelvehundred x, String label) {
+        check.due("27: " + label, digestOf(x), () -> x.digest());
+    }
+
+    /** The sum in whole, of which the lowest 64 bits are left when it has wrapped around. */
+    private static long digestOf(Twelvehundred x) {
+        List<Integer> values = new ArrayList<>();
         for (int what = 0; what <= 18; what++) {
-            d = d * 31 + x.county(what);
+            values.add(x.county(what));
         }
         for (int i = 0; i < x.county(0) * 5; i++) {
-            d = d * 31 + x.ofStreet(i / 5, i % 5);
+            values.add(x.ofStreet(i / 5, i % 5));
         }
         for (int i = 0; i < x.county(2) * 6; i++) {
-            d = d * 31 + x.ofHousehold(i / 6, i % 6);
+            values.add(x.ofHousehold(i / 6, i % 6));
         }
         for (int i = 0; i < x.county(1) * 4; i++) {
-            d = d * 31 + x.ofHall(i / 4, i % 4);
+            values.add(x.ofHall(i / 4, i % 4));
         }
-        for (int i = 0; i < lots * 2; i++) {
-            d = d * 31 + x.ofLot(i / 2, i % 2);
+        for (int i = 0; !Check.answerOf(lotOf(x, i)).startsWith("throws"); i++) {
+            values.add(x.ofLot(i, 0));
+            values.add(x.ofLot(i, 1));
         }
-        d = d * 31 + x.chosen();
-        d = d * 31 + x.would(20, 3);
-        d = d * 31 + x.signs().length();
-        return d * 31 + (x.isSound() ? 1 : 0);
+        values.add(x.chosen());
+        values.add(x.would(20, 3));
+        values.add(x.signs().length());
+        values.add(x.isSound() ? 1 : 0);
+        BigInteger d = BigInteger.valueOf(8609);
+        for (int v : values) {
+            d = d.multiply(BigInteger.valueOf(31)).add(BigInteger.valueOf(v));
+        }
+        return d.longValue();
+    }
+
+    private static Check.Call lotOf(Twelvehundred x, int lot) {
+        return () -> x.ofLot(lot, 0);
     }
 }

@@ -15,7 +15,8 @@ public final class LanguageTest {
         "NoSuchElementException", "RuntimeException");
     private static final List<String> RULED_OUT = List.of("->", "::", "\\bpackage\\b", "\\bfinally\\b",
         "\\bsynchronized\\b", "\\bassert\\b", "\\bprotected\\b", "Exact\\b", "\\bThread\\b", "\\bRandom\\b",
-        "\\bstatic\\s*\\{", "\\bhashCode\\b", "\\bObject\\b");
+        "\\bstatic\\s*\\{", "\\bhashCode\\b", "\\bObject\\b", "\"\"\\s*\\+", "\\+\\s*\"\"",
+        "catch \\((?:ArrayIndex|NullPointer|Arithmetic|ClassCast|NegativeArray|ArrayStore|Runtime|Exception|Throw)");
 
     private final Check check = new Check();
     private final String text;

@@ -1,4 +1,4 @@
-/** Promises 10 to 14, 18, 24 and 25: meals and lists. */
+/** Promises 10 to 14, 18, 24 and 25, and parts 4 and 5 of the description: meals and lists. */
 public final class MealsAndListsTest {
     private static final int FAR = Integer.MAX_VALUE;
     private static final int FAR_BELOW = Integer.MIN_VALUE;
@@ -10,6 +10,11 @@ public final class MealsAndListsTest {
         test.promise10Lot();
         test.promise11Give();
         test.promise11GiveThoseThatLastLeastFirst();
+        test.part4LotsAreAtMostTen();
+        test.part4MealsLastUntilTheirHour();
+        test.part4MealsAreGivenInTheirLastHour();
+        test.part4WhatIsNotThereIsMissing();
+        test.part4OfAsLongOnesTheSmallerNumber();
         test.promise12List();
         test.promise13Strike();
         test.promise13Persons();
@@ -18,6 +23,11 @@ public final class MealsAndListsTest {
         test.promise24Would();
         test.promise24WouldBehindTheLastHour();
         test.promise25AreAlike();
+        test.part5NamesHaveOneToFiveDigits();
+        test.part5NamesHaveNoZero();
+        test.part5ListedAreAtMostTwelve();
+        test.part5AlikeAreAtMostOneDigitApart();
+        test.part5StruckOnesLinkNobody();
         test.check.end("MealsAndListsTest");
     }
 
@@ -91,6 +101,93 @@ public final class MealsAndListsTest {
             int asked = lot;
             check.due(label + ", lot " + lot, left[lot], () -> x.ofLot(asked, 0));
         }
+    }
+
+    private void part4LotsAreAtMostTen() {
+        Twelvehundred x = new Twelvehundred();
+        for (int number = 0; number < 10; number++) {
+            check.due("lot " + number, number, () -> x.lot(99, 99));
+        }
+        check.state("lot 10", x, () -> x.lot(99, 99));
+        check.due("all of them are left", 990, () -> x.county(12));
+        check.due("the last is asked", 99, () -> x.ofLot(9, 0));
+        check.index("none behind it", x, () -> x.ofLot(10, 0));
+        for (int i = 0; i < 10; i++) {
+            check.due("given", 99, () -> x.give(99));
+        }
+        check.due("none is left", 0, () -> x.county(12));
+        check.due("all are given", 990, () -> x.county(13));
+        check.due("none is missing", 0, () -> x.county(15));
+        check.state("empty ones count as well", x, () -> x.lot(1, 0));
+        check.due("the last is asked still", 0, () -> x.ofLot(9, 0));
+    }
+
+    private void part4MealsLastUntilTheirHour() {
+        for (int hours : new int[] {0, 1, 2, 47, 48, 98, 99}) {
+            Twelvehundred x = Sheltered.inHour(5);
+            x.lot(7, hours);
+            check.due("would be there in their last hour", 7, () -> x.would(99, hours));
+            if (hours < 99) {
+                check.due("would not be behind it", 0, () -> x.would(99, hours + 1));
+            }
+            for (int left = hours; left > 0; left -= 48) {
+                x.pass(Math.min(left, 48));
+            }
+            leftIs(x, "their last hour, " + hours, 7);
+            check.due("none is spoilt", 0, () -> x.county(14));
+            check.due("so many are left", 7, () -> x.county(12));
+            x.pass(1);
+            leftIs(x, "behind it, " + hours, 0);
+            check.due("all are spoilt", 7, () -> x.county(14));
+            check.due("none is left", 0, () -> x.county(12));
+            check.due("the last hour is told still", 5 + hours, () -> x.ofLot(0, 1));
+            x.pass(1);
+            check.due("they are spoilt once", 7, () -> x.county(14));
+        }
+    }
+
+    private void part4MealsAreGivenInTheirLastHour() {
+        Twelvehundred x = new Twelvehundred();
+        x.lot(9, 1);
+        x.lot(9, 2);
+        x.pass(1);
+        check.due("in the last hour", 4, () -> x.give(4));
+        leftIs(x, "of the first", 5, 9);
+        x.pass(1);
+        check.due("what was left is spoilt", 5, () -> x.county(14));
+        check.due("of the other alone", 9, () -> x.give(10));
+        check.due("one is missing", 1, () -> x.county(15));
+        x.pass(1);
+        check.due("what is given does not spoil", 5, () -> x.county(14));
+        check.due("given", 13, () -> x.county(13));
+    }
+
+    private void part4WhatIsNotThereIsMissing() {
+        for (int wanted = 97; wanted <= 99; wanted++) {
+            Twelvehundred x = new Twelvehundred();
+            x.lot(90, 0);
+            x.lot(8, 0);
+            int told = wanted;
+            check.due("would be given of 98", Math.min(98, told), () -> x.would(told, 0));
+            check.due("given of 98", Math.min(98, told), () -> x.give(told));
+            check.due("missing of " + told, Math.max(0, told - 98), () -> x.county(15));
+            check.due("left of 98", Math.max(0, 98 - told), () -> x.county(12));
+        }
+    }
+
+    private void part4OfAsLongOnesTheSmallerNumber() {
+        Twelvehundred x = new Twelvehundred();
+        x.lot(3, 2);
+        x.pass(1);
+        x.lot(3, 1);
+        x.pass(1);
+        x.lot(3, 0);
+        x.give(1);
+        leftIs(x, "the smallest", 2, 3, 3);
+        x.give(2);
+        leftIs(x, "the smallest to its end", 0, 3, 3);
+        x.give(4);
+        leftIs(x, "the next, and one of the last", 0, 0, 2);
     }
 
     private void promise12List() {
@@ -226,7 +323,10 @@ public final class MealsAndListsTest {
         check.due("24: above hour 500", 17, () -> x.would(20, 50));
         check.due("24: far above hour 500", 8, () -> x.would(20, 51));
         check.due("24: farthest above hour 500", 0, () -> x.would(20, 99));
+        x.lot(7, 99);
+        check.due("24: farthest above hour 500, one that lasts", 7, () -> x.would(20, 99));
         check.due("10: a last hour above 500", 598, () -> x.ofLot(1, 1));
+        check.due("10: the last of all last hours", 599, () -> x.ofLot(2, 1));
     }
 
     private void promise25AreAlike() {
@@ -249,5 +349,82 @@ public final class MealsAndListsTest {
             check.argument("25: both " + wrong, x, () -> x.areAlike(wrong, wrong));
         }
         check.due("25: nobody is listed by it", 0, () -> x.county(16));
+    }
+
+    private void part5NamesHaveOneToFiveDigits() {
+        for (int name : new int[] {1, 9, 11, 99, 111, 999, 1111, 9999, 11111, 99999}) {
+            Twelvehundred x = new Twelvehundred();
+            check.due("listed " + name, 0, () -> x.list(name));
+            check.due("alike " + name, true, () -> x.areAlike(name, name));
+            check.argument("below 0 " + name, x, () -> x.list(-name));
+        }
+        Twelvehundred x = new Twelvehundred();
+        for (int name : new int[] {0, 100000, 111111, 999999, 1111111, 11111111, 1111111111}) {
+            check.argument("listed " + name, x, () -> x.list(name));
+            check.argument("alike " + name, x, () -> x.areAlike(name, 1) || x.areAlike(1, name));
+        }
+    }
+
+    private void part5NamesHaveNoZero() {
+        for (int zero = 1; zero <= 1000; zero *= 10) {
+            Twelvehundred x = new Twelvehundred();
+            int name = 22222 - 2 * zero;
+            int allowed = 22222 - zero;
+            check.argument("a digit is 0 in " + name, x, () -> x.list(name));
+            check.argument("one with it " + name, x, () -> x.areAlike(name, allowed));
+            check.argument("other with it " + name, x, () -> x.areAlike(allowed, name));
+            check.due("a digit is 1 in " + allowed, 0, () -> x.list(allowed));
+        }
+    }
+
+    private void part5ListedAreAtMostTwelve() {
+        Twelvehundred x = new Twelvehundred();
+        for (int number = 0; number < 12; number++) {
+            check.due("listed " + number, number, () -> x.list(99999));
+        }
+        check.state("listed 12", x, () -> x.list(99999));
+        check.due("the last is struck", 1, () -> x.strike(11, true));
+        check.index("none behind it is", x, () -> x.strike(12, true));
+        check.state("struck ones count as well", x, () -> x.list(99999));
+        for (int number = 0; number < 10; number++) {
+            int who = number;
+            check.due("persons behind " + who, 1, () -> x.strike(who, true));
+        }
+        check.due("persons behind the last", 0, () -> x.strike(10, true));
+        check.due("twelve are listed still", 12, () -> x.county(16));
+    }
+
+    private void part5AlikeAreAtMostOneDigitApart() {
+        int[][] pairs = {
+            {1, 2, 1}, {12, 32, 1}, {12, 13, 1}, {12, 34, 0}, {12345, 92345, 1}, {12345, 12395, 1}, {12345, 92395, 0},
+            {1, 12, 1}, {1, 123, 0}, {12, 1, 1}, {12, 2, 1}, {12, 3, 0}, {123, 13, 1}, {123, 31, 0}, {123, 3, 0},
+            {12345, 1234, 1}, {12345, 2345, 1}, {12345, 1245, 1}, {12345, 1254, 0}, {12345, 123, 0},
+            {1111, 11111, 1}, {111, 11111, 0}, {1112, 11111, 0}, {12, 21, 0}, {121, 212, 0}, {99999, 99999, 1}};
+        Twelvehundred x = new Twelvehundred();
+        for (int[] pair : pairs) {
+            check.due(pair[0] + " and " + pair[1], pair[2] == 1, () -> x.areAlike(pair[0], pair[1]));
+            check.due(pair[1] + " and " + pair[0], pair[2] == 1, () -> x.areAlike(pair[1], pair[0]));
+            personsAre(2 - pair[2], pair[0], pair[1]);
+        }
+    }
+
+    private void part5StruckOnesLinkNobody() {
+        Twelvehundred x = new Twelvehundred();
+        check.due("none is listed", 0, () -> x.county(17));
+        for (int name : new int[] {1, 12, 123, 1234, 12345}) {
+            x.list(name);
+        }
+        check.due("a chain", 1, () -> x.county(17));
+        check.due("its end is struck", 1, () -> x.strike(0, true));
+        check.due("its middle, too", 2, () -> x.strike(2, true));
+        check.due("all but the ends of it", 2, () -> x.strike(3, true));
+        check.due("one end is left", 1, () -> x.strike(1, true));
+        check.due("nobody is left", 0, () -> x.strike(4, true));
+        check.due("its first is back", 1, () -> x.strike(0, false));
+        check.due("and its last", 2, () -> x.strike(4, false));
+        check.due("and its second", 2, () -> x.strike(1, false));
+        check.due("and its fourth", 2, () -> x.strike(3, false));
+        check.due("and its link", 1, () -> x.strike(2, false));
+        check.due("all were listed ever", 5, () -> x.county(16));
     }
 }

@@ -1,7 +1,11 @@
+import java.util.ArrayList;
+import java.util.List;
+
 /** Long runs of calls, the same on the program and on the model, each answer compared. */
 public final class ModelTest {
     private static final int RUNS = 150;
-    private static final int CALLS = 512;
+    /** With the digest at a run's end 512, which is as many as an object is for. */
+    private static final int CALLS = 511;
 
     private final Check check = new Check();
     private long seed;
@@ -14,6 +18,7 @@ public final class ModelTest {
         for (int run = 0; run < RUNS; run++) {
             test.run(run);
         }
+        test.everyPairOfNames();
         test.check.end("ModelTest");
     }
 
@@ -108,6 +113,28 @@ public final class ModelTest {
         switch (upTo(1)) {
             case 0 -> same(run, "lot", () -> x.lot(meals, hours), () -> m.lot(meals, hours));
             default -> same(run, "give", () -> x.give(meals), () -> m.give(meals));
+        }
+    }
+
+    /** All names of the digits 1 and 2. */
+    private static List<Integer> names() {
+        List<Integer> names = new ArrayList<>(List.of(1, 2));
+        for (int i = 0; names.get(i) < 10000; i++) {
+            names.add(names.get(i) * 10 + 1);
+            names.add(names.get(i) * 10 + 2);
+        }
+        return names;
+    }
+
+    private void everyPairOfNames() {
+        List<Integer> names = names();
+        check.due("names of the digits 1 and 2", 62, () -> names.size());
+        for (int one : names) {
+            Twelvehundred asked = new Twelvehundred();
+            Model wanted = new Model();
+            for (int other : names) {
+                check.due(one + " and " + other, wanted.areAlike(one, other), () -> asked.areAlike(one, other));
+            }
         }
     }
 

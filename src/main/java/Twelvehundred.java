@@ -675,8 +675,8 @@ public final class Twelvehundred {
 
         int guestsOf(Hall hall) {
             int set = 0;
-            for (int i = 0; i < households.size(); i++) {
-                if (hallOf(households.get(i)) == hall) {
+            for (int i = 0; i < taken.length; i++) {
+                if (taken[i] == hall) {
                     set |= 1 << i;
                 }
             }
@@ -760,24 +760,28 @@ public final class Twelvehundred {
 
         /**
          * Whether a stable placing gives any household a hall that it would rather have than its own in
-         * the placing that is looked at. The trial is filled from the given household on; what envy rules out
-         * early is not filled further, as nobody placed later could take that envy away.
+         * the placing that is looked at. The trial is empty from the given household on, and is so again when the
+         * answer is no. What rooms or envy rule out early is not filled further, as nobody placed later could
+         * make up for it.
          */
         private static boolean isBeaten(Placing looked, Placing trial, int from) {
             if (from < 0 || from >= trial.households.size()) {
-                return trial.isBetterForAny(looked) && trial.isWithinRooms() && !trial.isContested();
+                return trial.isBetterForAny(looked) && !trial.isContested();
             }
             Household one = trial.households.get(from);
             if (one.state != FETCHED) {
                 return isBeaten(looked, trial, from + 1);
             }
             for (int i = NONE; i < trial.halls.size(); i++) {
-                trial.put(one, i < 0 ? null : trial.halls.get(i));
-                if (!trial.hasEnvyUpTo(from) && isBeaten(looked, trial, from + 1)) {
-                    return true;
+                Hall hall = i < 0 ? null : trial.halls.get(i);
+                if (hall == null || trial.hasRoom(hall)) {
+                    trial.put(one, hall);
+                    if (!trial.hasEnvyUpTo(from) && isBeaten(looked, trial, from + 1)) {
+                        return true;
+                    }
+                    trial.put(one, null);
                 }
             }
-            trial.put(one, null);
             return false;
         }
     }

@@ -28,6 +28,7 @@ public final class AskedTest {
         test.promise23IsStableOfNobody();
         test.promise26IsSound();
         test.promise26IsSoundOfMeals();
+        test.promise26IsSoundOfThoseAtHome();
         test.promise26IsSoundOfPersons();
         test.promise27Digest();
         test.promise27DigestOfWhatWouldBe();
@@ -470,6 +471,22 @@ public final class AskedTest {
         check.due("26: all counted", 90, () -> x.county(13) + x.county(14));
         x.give(99);
         check.due("26: missing ones are none of it", true, () -> x.isSound());
+    }
+
+    /** Nobody can be fetched, or some, or all: by as many as can be it is sound each time. */
+    private void promise26IsSoundOfThoseAtHome() {
+        for (int buses = 0; buses <= 3; buses++) {
+            for (int rise = -1; rise <= 3; rise++) {
+                Twelvehundred x = Sheltered.streets(9, 11, 12, 13);
+                x.river(8, 0);
+                for (int i = 0; i < 6; i++) {
+                    x.household(i % 4, 9 - i, false);
+                }
+                x.buses(buses);
+                x.river(10, rise);
+                check.due("26: " + buses + " buses, rise " + rise, true, () -> x.isSound());
+            }
+        }
     }
 
     private void promise26IsSoundOfPersons() {

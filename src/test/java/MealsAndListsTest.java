@@ -263,6 +263,10 @@ public final class MealsAndListsTest {
         check.due("14: first", 1, () -> x.knock());
         check.due("14: second", 2, () -> x.knock());
         check.due("14: counted", 2, () -> x.county(18));
+        x.pass(48);
+        x.list(1);
+        x.strike(0, true);
+        check.due("14: as many ever", 3, () -> x.knock());
     }
 
     private void promise18OfLot() {

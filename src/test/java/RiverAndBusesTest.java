@@ -9,6 +9,7 @@ public final class RiverAndBusesTest {
         test.levelIsHeld();
         test.hourIsAtMostFiveHundred();
         test.theHourBringsTheLevelFirst();
+        test.eachHourCutsOff();
         test.onlyThoseAtHomeAreCutOff();
         test.floodedAtItsHeight();
         test.limitIsZeroIfFloodedNow();
@@ -104,6 +105,18 @@ public final class RiverAndBusesTest {
         y.river(18, 1);
         check.due("not below its height", 0, () -> y.pass(1));
         check.due("all the same at home", "h", () -> y.signs());
+    }
+
+    /** The water of an hour on the way is not that of the last hour. */
+    private void eachHourCutsOff() {
+        Twelvehundred x = Sheltered.streets(19, 20, 21);
+        x.household(0, 1, false);
+        x.household(1, 1, false);
+        x.household(2, 1, false);
+        x.river(25, -5);
+        check.due("the first of three hours", 2, () -> x.pass(3));
+        check.due("it is over", 10, () -> x.county(7));
+        check.due("they are cut off still", "xxh", () -> x.signs());
     }
 
     private void onlyThoseAtHomeAreCutOff() {
